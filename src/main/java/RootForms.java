@@ -311,16 +311,7 @@ public final class RootForms {
             return refuse(WRONG_NUMBER);
         }
         out.clear();
-        int found = 0;
-        long y = Sums.rootOf(n);
-        for (long x = 0; 2 * x * x <= n; x++) {
-            for (; y > 0 && x * x + y * y > n; y--) { }
-            if (x * x + y * y == n) {
-                out.insert((int) x, (int) y);
-                found++;
-            }
-        }
-        return accept(found);
+        return accept(countSquares(n));
     }
 
     public int pair(int i, boolean second) {
@@ -404,12 +395,37 @@ public final class RootForms {
     }
 
     private int countProper(int n, int wanted) {
+        int size = Math.abs(n);
+        if (size == 0) {
+            return 0;
+        }
         int found = 0;
-        int length = 2 * Math.abs(n);
-        for (int b = ground.d & 1; b < length; b += 2) {
-            if (ground.complete(n, b, workForm) && table.find(workForm) == wanted) {
+        int first = ground.d & 1;
+        /* The rest of (b b - D) / 4 by |n|, carried from b to b + 2, spares a division of long numbers for most b. */
+        int rest = Math.floorMod((first - ground.d) / 4, size);
+        for (int b = first; b < 2 * size; b += 2) {
+            if (rest == 0 && ground.complete(n, b, workForm) && table.find(workForm) == wanted) {
                 found++;
             }
+            rest = (rest + b + 1) % size;
+        }
+        return found;
+    }
+
+    private int countSquares(int n) {
+        int found = 0;
+        int y = (int) Sums.rootOf(n);
+        /* x x + y y - n, carried from pair to pair along the circle. */
+        int over = y * y - n;
+        for (int x = 0; x <= y; x++) {
+            for (; over > 0 && y > x; y--) {
+                over -= 2 * y - 1;
+            }
+            if (over == 0) {
+                out.insert(x, y);
+                found++;
+            }
+            over += 2 * x + 1;
         }
         return found;
     }
