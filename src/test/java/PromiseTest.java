@@ -196,6 +196,11 @@ public final class PromiseTest {
         accepted(x, "form(997005, 1000000)", x.form(997_005, 1_000_000), 0);
         dueForm(x, 0, 997_005, 1_000_000, 250_751);
         accepted(x, "form(250751, -1000000)", x.form(250_751, -1_000_000), 1);
+        x = of(3241);
+        accepted(x, "form(-2, 2829)", x.form(-2, 2829), 0);
+        dueForm(x, 0, -2, 2829, -1_000_000);
+        accepted(x, "form(-1000000, 2829)", x.form(-1_000_000, 2829), 1);
+        dueForm(x, 1, -1_000_000, 2829, -2);
 
         x = of(-23);
         for (int i = 0; i < 40; i++) {
@@ -822,6 +827,13 @@ public final class PromiseTest {
         duePairs(x, -1, 0, 1, 0);
         accepted(x, "takes(0, 1000)", x.takes(0, 1000), 4);
         duePairs(x, -1000, 1, -999, 1, 999, -1, 1000, -1);
+        x = of(-23);
+        x.form(6, 5);
+        x.form(1, 1);
+        accepted(x, "takes(1, 6)", x.takes(1, 6), 4);
+        duePairs(x, -1, 1, 0, -1, 0, 1, 1, -1);
+        accepted(x, "takes(0, 3)", x.takes(0, 3), 2);
+        duePairs(x, -1, 1, 1, -1);
         x = of(5);
         x.squares(25);
         refused(x, "takes(0, 0) with D above 0", x.takes(0, 0), 2);
