@@ -1,7 +1,7 @@
 import java.util.ArrayList;
 import java.util.List;
 
-/** The boundary cases of acts, sizes, trouble and of how many calls (promises 29 to 31), each with a test of its own. */
+/** The boundary cases of acts, sizes, trouble and the number of calls (promises 29 to 31), each with a test. */
 public final class ActEdgeTest extends Checks {
 
     public static void main(String[] args) {
