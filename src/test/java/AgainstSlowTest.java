@@ -29,7 +29,8 @@ public final class AgainstSlowTest {
         this.run = run;
         random = new Random(7919L * run + 13);
         /* A few discriminants for each run, as the slow classes take their time; the dear ones of the edges too. */
-        grounds = new int[] {discriminant(), discriminant(), run % 4 == 0 ? -3911 : run % 4 == 1 ? 3649 : discriminant()};
+        int dear = run % 4 == 0 ? -3911 : run % 4 == 1 ? 3649 : discriminant();
+        grounds = new int[] {discriminant(), discriminant(), dear};
     }
 
     public static void main(String[] args) {
@@ -81,7 +82,8 @@ public final class AgainstSlowTest {
     }
 
     private int classNumber() {
-        return random.nextInt(12) == 0 ? (random.nextBoolean() ? odd() : slow.classes()) : random.nextInt(slow.classes());
+        int count = slow.classes();
+        return random.nextInt(12) == 0 ? (random.nextBoolean() ? odd() : count) : random.nextInt(count);
     }
 
     private int among(int low, int high) {
