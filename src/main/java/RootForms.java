@@ -434,7 +434,7 @@ public final class RootForms {
 
         private Sums() { }
 
-        /** The greatest whole number whose square is at most n, for n up to 2 to the 32nd. */
+        /** The greatest whole number whose square is at most n, for n from 0 to below 2 to the 32nd. */
         static long rootOf(long n) {
             long found = 0;
             for (long bit = 1 << 15; bit > 0; bit >>= 1) {
